@@ -121,6 +121,9 @@ public final class PromisesTest {
         ChannelRouter x = channel("1124..4", "2.3..3.");
         same("tracks", 3, x.lay(false));
         segments("chain", x, "1 0 1 0", "2 0 2 1", "3 2 5 2", "4 3 6 0");
+        ChannelRouter y = channel("99", "..");
+        same("the last net", 1, y.lay(false));
+        segments("the last net", y, "9 0 1 0");
     }
 
     private static void layGoesByLeftEndsThenNumbers() {
