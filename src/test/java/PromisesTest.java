@@ -1,11 +1,5 @@
 /** For each promise of the document: ordinary inputs, the edges that it names, and wrong inputs. */
-public final class PromisesTest {
-    private static int wrong = 0;
-
-    private interface Call {
-        Object answer();
-    }
-
+public final class PromisesTest extends Checks {
     public static void main(String[] args) {
         newObject();
         pinAnswersTheNetBefore();
@@ -37,9 +31,7 @@ public final class PromisesTest {
         counts();
         usedPart();
         fullChannel();
-        if (wrong > 0) {
-            System.exit(1);
-        }
+        end();
     }
 
     // ---- promise 1
@@ -571,95 +563,5 @@ public final class PromisesTest {
         same("last right", 19, x.segment(37, 2));
         same("used", 1f, x.used());
         outOfBounds("38", () -> x.segment(38, 0));
-    }
-
-    // ---- helpers
-
-    private static ChannelRouter channel(String top, String bottom) {
-        ChannelRouter x = new ChannelRouter();
-        for (int column = 0; column < top.length(); column++) {
-            x.pin(column, true, netOf(top.charAt(column)));
-            x.pin(column, false, netOf(bottom.charAt(column)));
-        }
-        return x;
-    }
-
-    private static int netOf(char c) {
-        return c == '.' ? 0 : c - '0';
-    }
-
-    private static void segments(String what, ChannelRouter x, String... due) {
-        same(what + ": segments", due.length, x.count(1));
-        for (int i = 0; i < due.length && i < x.count(1); i++) {
-            String got = x.segment(i, 0) + " " + x.segment(i, 1) + " " + x.segment(i, 2) + " " + x.segment(i, 3);
-            same(what + ": segment " + i, due[i], got);
-        }
-    }
-
-    private static void ring(String what, ChannelRouter x, int... due) {
-        for (int k = 0; k < due.length; k++) {
-            same(what + ": ring " + k, due[k], x.ring(k));
-        }
-        same(what + ": ring ends", -1, x.ring(due.length));
-        same(what + ": ring -1", -1, x.ring(-1));
-    }
-
-    private static void upright(String what, ChannelRouter x, int column, int... due) {
-        same(what + ": rows", due.length, x.count(0) + 2);
-        for (int row = -1; row < due.length - 1; row++) {
-            same(what + ": row " + row, due[row + 1], x.upright(column, row));
-        }
-    }
-
-    private static void nets(String what, ChannelRouter x, int net, int... due) {
-        for (int k = 0; k < due.length; k++) {
-            same(what + ": net(" + net + ", " + k + ")", due[k], x.net(net, k));
-        }
-    }
-
-    private static void counts(String what, ChannelRouter x, int... due) {
-        for (int k = 0; k < due.length; k++) {
-            same(what + ": count " + k, due[k], x.count(k));
-        }
-    }
-
-    private static void same(String what, Object due, Object got) {
-        if (!due.equals(got)) {
-            wrong++;
-            StackTraceElement at = caller();
-            System.out.println(at.getMethodName() + ": " + what + ": due is " + due + ", got " + got);
-        }
-    }
-
-    private static StackTraceElement caller() {
-        for (StackTraceElement e : new Throwable().getStackTrace()) {
-            boolean helper = e.getMethodName().matches("caller|same|throwing|outOfBounds|illegalArgument|illegalState");
-            if (!helper) {
-                return e;
-            }
-        }
-        return new Throwable().getStackTrace()[0];
-    }
-
-    private static void outOfBounds(String what, Call call) {
-        throwing(what, IndexOutOfBoundsException.class, call);
-    }
-
-    private static void illegalArgument(String what, Call call) {
-        throwing(what, IllegalArgumentException.class, call);
-    }
-
-    private static void illegalState(String what, Call call) {
-        throwing(what, IllegalStateException.class, call);
-    }
-
-    private static void throwing(String what, Class<?> due, Call call) {
-        Object got;
-        try {
-            got = call.answer();
-        } catch (RuntimeException e) {
-            got = e.getClass();
-        }
-        same(what, due, got);
     }
 }
