@@ -62,6 +62,7 @@ public final class TermsBoundaryTest extends Checks {
         test("in the fewest steps, a later step", TermsBoundaryTest::fewestStepsLater);
         test("the lowest of those, the first step", TermsBoundaryTest::lowestOfEqualAtFirst);
         test("the lowest of those, a later step", TermsBoundaryTest::lowestOfEqualLater);
+        test("back to the first, by one of two that come there", TermsBoundaryTest::ringBesideOthersAboveTheFirst);
         test("back to the first: nothing after it is told", TermsBoundaryTest::ringEndsAtTheFirst);
     }
 
@@ -235,8 +236,10 @@ public final class TermsBoundaryTest extends Checks {
 
     private static void onlyLongNetsHaveSegments() {
         ChannelRouter x = channel("2.13.3", "2.1..1");
-        same("lay", 2, x.lay(true));
-        segments("2 is straight, 4 has no pins", x, "1 2 5 1", "3 3 5 0");
+        same("whole", 2, x.lay(false));
+        segments("whole, 2 is straight, 4 has no pins", x, "1 2 5 1", "3 3 5 0");
+        same("cut", 2, x.lay(true));
+        segments("cut, 2 is straight, 4 has no pins", x, "1 2 5 1", "3 3 5 0");
         same("single nets have none", 0, channel("1", "2").pairs(false));
         same("nor have they pairs with long ones", 0, channel("11", "2.").pairs(true));
     }
@@ -461,6 +464,13 @@ public final class TermsBoundaryTest extends Checks {
         ChannelRouter x = channel("12254", "25411");
         illegalState("lay", () -> x.lay(false));
         ring("by way of 4", x, 0, 1, 2);
+    }
+
+    private static void ringBesideOthersAboveTheFirst() {
+        // 1 above 3 above 2 above 1; 4 and 5 are above 1, too, but below none
+        ChannelRouter x = channel("1324545", "32111..");
+        illegalState("lay", () -> x.lay(false));
+        ring("by way of 3 and 2", x, 0, 2, 1);
     }
 
     private static void ringEndsAtTheFirst() {
